@@ -80,7 +80,7 @@ public final class WheelAndWire {
         for (int slot = 0; slot < SLOTS; slot++) {
             slots[slot].filled = false;
         }
-        leftPlan.size = 0;
+        leftPlan.empty();
         orderPlan.workedOut = false;
         return cheese.rows * cheese.columns;
     }
@@ -232,8 +232,7 @@ public final class WheelAndWire {
 
     public int unorder() {
         int was = orderPlan.size;
-        orderPlan.size = 0;
-        orderPlan.workedOut = false;
+        orderPlan.empty();
         return was;
     }
 
@@ -255,16 +254,20 @@ public final class WheelAndWire {
     }
 
     public int left(int block) {
-        if (!cheese.holds(firstRow(block), firstColumn(block), rowsOf(block), columnsOf(block))) {
+        int row = block / 1000;
+        int column = block / 100 % 10;
+        int rows = block / 10 % 10;
+        int columns = block % 10;
+        if (!cheese.holds(row, column, rows, columns)) {
             return UNKNOWN;
         }
-        if (leftPlan.touches(block)) {
+        if (leftPlan.touches(row, column, rows, columns)) {
             return LATE;
         }
         if (leftPlan.size >= MOST_LEFT) {
             return FULL;
         }
-        leftPlan.enter(block);
+        leftPlan.enter(row, column, rows, columns);
         return leftPlan.size;
     }
 
@@ -275,7 +278,7 @@ public final class WheelAndWire {
 
     public int unleft() {
         int was = leftPlan.size;
-        leftPlan.size = 0;
+        leftPlan.empty();
         return was;
     }
 
@@ -409,27 +412,6 @@ public final class WheelAndWire {
 
     private static boolean isAsk(int a, int o, int r) {
         return a >= 1 && a <= 360 && o >= 0 && o <= MOST_OVER && r >= 0 && r <= MOST_PLACES;
-    }
-
-    private static int firstRow(int block) {
-        return block / 1000;
-    }
-
-    private static int firstColumn(int block) {
-        return block / 100 % 10;
-    }
-
-    private static int rowsOf(int block) {
-        return block / 10 % 10;
-    }
-
-    private static int columnsOf(int block) {
-        return block % 10;
-    }
-
-    /** How much of a stretch lies in another one; below 1 if they lie apart. */
-    private static int shared(int start, int length, int otherStart, int otherLength) {
-        return Math.min(start + length, otherStart + otherLength) - Math.max(start, otherStart);
     }
 
     /** 1 at least, so that it can always divide. */
@@ -1101,6 +1083,11 @@ public final class WheelAndWire {
             }
         }
 
+        void empty() {
+            size = 0;
+            workedOut = false;
+        }
+
         int everyAsk() {
             return (1 << size) - 1;
         }
@@ -1203,50 +1190,66 @@ public final class WheelAndWire {
 
     /** The blocks that are left, and how few cuts make each of them a block of its own. */
     private static final class LeftPlan extends Plan {
-        final int[] blocks = new int[MOST_LEFT];
+        final int[] tops = new int[MOST_LEFT];
+        final int[] bottoms = new int[MOST_LEFT];
+        final int[] lefts = new int[MOST_LEFT];
+        final int[] rights = new int[MOST_LEFT];
         int size;
+        boolean workedOut;
 
         LeftPlan(Form form) {
             super(form, 1);
         }
 
-        void enter(int block) {
+        void enter(int row, int column, int rows, int columns) {
             if (size < MOST_LEFT) {
-                blocks[size] = block;
+                tops[size] = row;
+                bottoms[size] = row + rows;
+                lefts[size] = column;
+                rights[size] = column + columns;
                 size++;
+                workedOut = false;
             }
         }
 
-        boolean touches(int block) {
+        void empty() {
+            size = 0;
+            workedOut = false;
+        }
+
+        boolean touches(int row, int column, int rows, int columns) {
             for (int i = 0; i < size; i++) {
-                if (placesOf(blocks[i], firstRow(block), firstColumn(block), rowsOf(block), columnsOf(block)) > 0) {
+                if (!isApart(i, row, column, row + rows, column + columns)) {
                     return true;
                 }
             }
             return false;
         }
 
+        boolean isApart(int i, int top, int left, int bottom, int right) {
+            return tops[i] >= bottom || bottoms[i] <= top || lefts[i] >= right || rights[i] <= left;
+        }
+
         int fewest() {
-            workOut(0);
+            if (!workedOut) {
+                workOut(0);
+                workedOut = true;
+            }
             return costOfAll(0);
         }
 
-        static int placesOf(int block, int row, int column, int rows, int columns) {
-            int tall = shared(firstRow(block), rowsOf(block), row, rows);
-            int wide = shared(firstColumn(block), columnsOf(block), column, columns);
-            return tall > 0 && wide > 0 ? tall * wide : 0;
-        }
-
         int verdict(int row, int column, int rows, int columns, int wish) {
+            int bottom = row + rows;
+            int right = column + columns;
             int verdict = 0;
             for (int i = 0; i < size; i++) {
-                int places = placesOf(blocks[i], row, column, rows, columns);
-                int all = rowsOf(blocks[i]) * columnsOf(blocks[i]);
-                if (places > 0 && places < all) {
-                    return NEVER; // a cut went through it
-                }
-                if (places > 0 && places < rows * columns) {
-                    verdict = MUST_CUT;
+                if (!isApart(i, row, column, bottom, right)) {
+                    if (tops[i] < row || bottoms[i] > bottom || lefts[i] < column || rights[i] > right) {
+                        return NEVER; // a cut went through it
+                    }
+                    if (tops[i] > row || bottoms[i] < bottom || lefts[i] > column || rights[i] < right) {
+                        verdict = MUST_CUT;
+                    }
                 }
             }
             return verdict;
