@@ -5,6 +5,7 @@ final class Check {
     private static int wrong = 0;
     private static int asked = 0;
     private static String sentence = "";
+    private static boolean worn = false;
 
     private Check() {
     }
@@ -41,8 +42,16 @@ final class Check {
         }
     }
 
+    /** From here on made() answers objects that have had many calls, and are to answer as new ones do. */
+    static void wearFromHereOn() {
+        worn = true;
+    }
+
     static WheelAndWire made(String text) {
         WheelAndWire x = new WheelAndWire();
+        if (worn) {
+            Worn.wear(x);
+        }
         put(x, text);
         due("form() of " + text, x.form(), text.replace("/", "").length());
         return x;

@@ -4,7 +4,8 @@ import java.util.Random;
 public final class ModelTest {
     private static final int RUNS = 1000;
     private static final int CALLS = 512;
-    private static final int ROOM = 40; // more than one step here may call
+    private static final int ROOM = 60; // more than one step here may call
+    private static final int LITTLE_ROOM = 2; // as much as a step that makes no form may call
     private static final int[] WILD = {Integer.MIN_VALUE, -1000000, -9, -2, -1, 0, 7, 10, 24, 37, 100, 361, 1000, Integer.MAX_VALUE};
 
     private final Random lot;
@@ -30,6 +31,12 @@ public final class ModelTest {
         anotherForm();
         while (calls < CALLS - ROOM && Check.wrongSoFar() == 0) {
             call(lot.nextInt(60));
+        }
+        while (calls <= CALLS - LITTLE_ROOM && Check.wrongSoFar() == 0) {
+            smallCall(lot.nextInt(4));
+        }
+        while (calls < CALLS && Check.wrongSoFar() == 0) {
+            due("worth()", x.worth(), m.worth());
         }
         if (Check.wrongSoFar() != 0) {
             System.out.println(told);
@@ -145,6 +152,15 @@ public final class ModelTest {
             whole(which - 32);
         } else {
             rest(which - 44);
+        }
+    }
+
+    private void smallCall(int group) {
+        switch (group) {
+            case 0: pieces(lot.nextInt(19)); break;
+            case 1: asks(lot.nextInt(12)); break;
+            case 2: whole(lot.nextInt(8)); break;
+            default: rest(lot.nextInt(16));
         }
     }
 
