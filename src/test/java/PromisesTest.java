@@ -41,10 +41,10 @@ public final class PromisesTest {
         Check.says("THE TEXT is the FORM (HALF HOURS 0, what was kept is gone; ORDER, BOOKS stay, BLOCKS that are LEFT are gone): "
             + "how many PLACES. LATE: a FAULT.");
         x.due("form() LATE; place(1, 0) 1", "wipe() 6; form() LATE", "order(10, 0, 0) 1; book(7) 1; taste(4, true) 1; left(11) 1");
-        x.due("pass(9) 9; keep(0) 1; keep(1) 1; cut(0, true, 1) 1; wrap(0, 2) 0");
+        x.due("pass(9) 9; keep(0) 1; keep(1) 1; cut(0, true, 1) 1; wrap(0, 2) 0", "whole() 3; first() 1; read() 2");
         x.form("RRRR/RPPR/RPPR/RRRR");
         x.due("count(0) 1; count(1) 1; count(2) 0; count(3) 1; count(4) 0; count(5) 19; count(6) 1", "again(0) LATE; again(1) LATE");
-        x.due("about(0, 0) 44; about(0, 6) 0", "over(7) 1007; brings(4, true) 1000028; brings(4, false) 3", "unorder() 1");
+        x.due("about(0, 0) 44; about(0, 6) 0", "over(7) 1007; brings(4, true) 1000028; brings(4, false) 3", "whole() 9; first() 2; read() 0; unorder() 1");
         Check.says("A PLACE: 0 paste, 1 rind, 2 air. UNKNOWN.");
         x.due("place(0, 0) 1; place(1, 1) 0; place(3, 3) 1", "place(4, 3) UNKNOWN; place(3, 4) UNKNOWN; place(-1, 0) UNKNOWN");
         x.due("place(0, -1) UNKNOWN");
@@ -185,6 +185,10 @@ public final class PromisesTest {
         x.due("again(1) 2; count(0) 2; count(2) 10; about(0, 1) 0; about(0, 5) 0; about(0, 4) 500; about(1, 0) 2015; about(1, 4) 100");
         x.due("about(1, 6) 2; about(2, 0) UNKNOWN", "again(0) 2; count(0) 3; count(2) 15; about(0, 1) 2; about(0, 5) 17; about(2, 4) 40");
         x.due("again(2) UNKNOWN; again(-1) UNKNOWN; form() 15; again(0) LATE; again(1) LATE");
+        Check.says("how many have (at most 9999, else BAD)");
+        x.due("pass(999) 999; pass(999) 1998; pass(999) 2997; pass(999) 3996; pass(999) 4995; pass(999) 5994; pass(999) 6993");
+        x.due("keep(0) 1; pass(999) 7992; pass(999) 8991; pass(999) 9990; pass(10) BAD; pass(9) 9999; pass(1) BAD; count(2) 9999");
+        x.due("again(0) 1; pass(1) 6994; form() 15; count(2) 0");
     }
 
     private void counts() {
